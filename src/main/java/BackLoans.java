@@ -18,14 +18,10 @@ public final class BackLoans {
 
     private final Town now = new Town();
     private final Past past = new Past();
-    private final Town[] imageTowns = new Town[IMAGES];
-    private final Past[] imagePasts = new Past[IMAGES];
-    private final boolean[] imageKept = new boolean[IMAGES];
-    private final byte[] text = new byte[MOST_TEXT];
-    private int textLength;
-    private final Town trial = new Town();
-    private final Reader reader = new Reader(text);
-    private final Foresight foresight = new Foresight(trial);
+    private final Image firstImage = new Image();
+    private final Image secondImage = new Image();
+    private final Text text = new Text();
+    private final Foresight foresight = new Foresight();
     private final Will testament = new Will();
     private final Chance chance = new Chance();
     private int refusedBad;
@@ -33,10 +29,6 @@ public final class BackLoans {
     private int refusedFull;
 
     public BackLoans() {
-        for (int i = 0; i < IMAGES; i++) {
-            imageTowns[i] = new Town();
-            imagePasts[i] = new Past();
-        }
     }
 
     // ---- a town
@@ -99,26 +91,25 @@ public final class BackLoans {
         if (!within(c, 0, 127)) {
             return bad();
         }
-        if (textLength >= MOST_TEXT) {
+        if (text.length >= MOST_TEXT) {
             return full();
         }
-        text[textLength] = (byte) c;
-        textLength++;
-        return textLength;
+        text.add((byte) c);
+        return text.length;
     }
 
     public int clear() {
-        int had = textLength;
-        textLength = 0;
+        int had = text.length;
+        text.length = 0;
         return had;
     }
 
     public int read() {
-        int items = reader.readTown(textLength, trial);
+        int items = text.readTown(foresight.trial);
         if (items < 0) {
             return items;
         }
-        now.copyFrom(trial);
+        now.copyFrom(foresight.trial);
         past.forget();
         return items;
     }
@@ -206,13 +197,13 @@ public final class BackLoans {
         if (!within(m, 0, AHEAD_MOST) || !within(what, 0, 4)) {
             return bad();
         }
-        foresight.lookAhead(now, m);
+        Town then = foresight.lookAhead(now, m);
         switch (what) {
-            case 0: return trial.chest;
-            case 1: return trial.lacks;
-            case 2: return trial.howManyAre(HAD);
-            case 3: return trial.howManyAre(HOLE);
-            default: return trial.howManyAre(OWED);
+            case 0: return then.chest;
+            case 1: return then.lacks;
+            case 2: return then.howManyAre(HAD);
+            case 3: return then.howManyAre(HOLE);
+            default: return then.howManyAre(OWED);
         }
     }
 
@@ -220,16 +211,15 @@ public final class BackLoans {
         if (!within(m, 0, AHEAD_MOST) || !now.hasPerson(person)) {
             return bad();
         }
-        foresight.lookAhead(now, m);
-        return trial.purse[person];
+        return foresight.lookAhead(now, m).purse[person];
     }
 
     public int loanThen(int m, int loan, int what) {
         if (!within(m, 0, AHEAD_MOST) || !now.hasLoan(loan) || !within(what, 0, 1)) {
             return bad();
         }
-        foresight.lookAhead(now, m);
-        return what == 0 ? trial.state[loan] : trial.given[loan];
+        Town then = foresight.lookAhead(now, m);
+        return what == 0 ? then.state[loan] : then.given[loan];
     }
 
     public int lack(int m) {
@@ -327,8 +317,8 @@ public final class BackLoans {
         if (!asTold) {
             return bad();
         }
-        foresight.drawMonths(now, seed, w, m);
-        return trial.howManyAre(what == 0 ? HAD : HOLE);
+        Town then = foresight.drawMonths(now, seed, w, m);
+        return then.howManyAre(what == 0 ? HAD : HOLE);
     }
 
     // ---- what there is
@@ -345,9 +335,10 @@ public final class BackLoans {
         if (!within(i, 0, IMAGES - 1)) {
             return bad();
         }
-        imageTowns[i].copyFrom(now);
-        imagePasts[i].copyFrom(past);
-        imageKept[i] = true;
+        Image image = imageAt(i);
+        image.town.copyFrom(now);
+        image.past.copyFrom(past);
+        image.kept = true;
         return 1;
     }
 
@@ -355,11 +346,12 @@ public final class BackLoans {
         if (!within(i, 0, IMAGES - 1)) {
             return bad();
         }
-        if (!imageKept[i]) {
+        Image image = imageAt(i);
+        if (!image.kept) {
             return no();
         }
-        now.copyFrom(imageTowns[i]);
-        past.copyFrom(imagePasts[i]);
+        now.copyFrom(image.town);
+        past.copyFrom(image.past);
         return 1;
     }
 
@@ -388,6 +380,10 @@ public final class BackLoans {
         return 31 * h + chance.below;
     }
 
+    private Image imageAt(int i) {
+        return i == 0 ? firstImage : secondImage;
+    }
+
     private int countOf(int what) {
         switch (what) {
             case 0: return now.chest;
@@ -398,7 +394,7 @@ public final class BackLoans {
             case 5: return now.offers;
             case 6: return now.lacks;
             case 7: return past.kept;
-            default: return textLength;
+            default: return text.length;
         }
     }
 
@@ -794,25 +790,33 @@ public final class BackLoans {
         }
     }
 
-    /** Reads a town from the text; the token at hand is the fault if it can not stand there. */
-    private static final class Reader {
+    private static final class Image {
+        final Town town = new Town();
+        final Past past = new Past();
+        boolean kept;
+    }
+
+    /** The text, and how a town is read from it: the token at hand is the fault if it can not stand there. */
+    private static final class Text {
         static final int END = 0, WORD = 1, NUMBER = 2, STOP = 3, WRONG = 4;
         static final int MOST_FIGURES = 5;
 
-        final byte[] text;
         int length;
-        int token;
-        int start;
-        int behind;
-        int value;
+        private final byte[] bytes = new byte[MOST_TEXT];
+        private int token;
+        private int start;
+        private int behind;
+        private int value;
 
-        Reader(byte[] itsText) {
-            text = itsText;
+        void add(byte c) {
+            if (length < MOST_TEXT) {
+                bytes[length] = c;
+                length++;
+            }
         }
 
         /** How many items were read into the town, or -10 less the fault. */
-        int readTown(int textLength, Town town) {
-            length = Math.min(textLength, text.length);
+        int readTown(Town town) {
             behind = 0;
             town.makeEmpty();
             for (int items = 0; items <= length; items++) {
@@ -914,7 +918,7 @@ public final class BackLoans {
         /** Goes on to the next token; behind the last one that is the end, at the text's length. */
         void step() {
             start = behind;
-            while (start < length && text[start] == ' ') {
+            while (start < length && bytes[start] == ' ') {
                 start++;
             }
             behind = start;
@@ -925,7 +929,7 @@ public final class BackLoans {
             } else if (isFigure(start)) {
                 takeNumber();
             } else {
-                token = text[start] == ';' ? STOP : WRONG;
+                token = bytes[start] == ';' ? STOP : WRONG;
                 behind = start + 1;
             }
         }
@@ -941,7 +945,7 @@ public final class BackLoans {
             value = 0;
             while (behind < length && isFigure(behind)) {
                 if (behind - start < MOST_FIGURES) {
-                    value = value * 10 + (text[behind] - '0');
+                    value = value * 10 + (bytes[behind] - '0');
                 }
                 behind++;
             }
@@ -949,11 +953,11 @@ public final class BackLoans {
         }
 
         boolean isLetter(int place) {
-            return text[place] >= 'a' && text[place] <= 'z';
+            return bytes[place] >= 'a' && bytes[place] <= 'z';
         }
 
         boolean isFigure(int place) {
-            return text[place] >= '0' && text[place] <= '9';
+            return bytes[place] >= '0' && bytes[place] <= '9';
         }
 
         boolean isWord(String word) {
@@ -961,7 +965,7 @@ public final class BackLoans {
                 return false;
             }
             for (int i = 0; i < word.length(); i++) {
-                if (text[start + i] != word.charAt(i)) {
+                if (bytes[start + i] != word.charAt(i)) {
                     return false;
                 }
             }
@@ -975,17 +979,14 @@ public final class BackLoans {
         /** Halving 0 .. 9999 so often leaves one number. */
         static final int HALVINGS = 14;
 
-        final Town trial;
+        final Town trial = new Town();
 
-        Foresight(Town itsTrial) {
-            trial = itsTrial;
-        }
-
-        void lookAhead(Town town, int months) {
+        Town lookAhead(Town town, int months) {
             trial.copyFrom(town);
             for (int i = 0; i < months; i++) {
                 trial.liveMonth(0);
             }
+            return trial;
         }
 
         /** The first month in which lacks grow, were so much in the chest now. */
@@ -1021,8 +1022,7 @@ public final class BackLoans {
 
         int bestOffers(Town town, int person) {
             int room = MOST_LOANS - town.loans;
-            lookAhead(town, BEST_MONTHS);
-            int holesWithout = trial.howManyAre(HOLE);
+            int holesWithout = lookAhead(town, BEST_MONTHS).howManyAre(HOLE);
             int found = 0;
             int most = 0;
             for (int set = 1; set < 1 << town.offers; set++) {
@@ -1078,7 +1078,7 @@ public final class BackLoans {
             return bits;
         }
 
-        void drawMonths(Town town, int seed, int dryOfHundred, int months) {
+        Town drawMonths(Town town, int seed, int dryOfHundred, int months) {
             trial.copyFrom(town);
             long x = seed;
             for (int i = 0; i < months; i++) {
@@ -1091,6 +1091,7 @@ public final class BackLoans {
                 }
                 trial.liveMonth(dry);
             }
+            return trial;
         }
     }
 
@@ -1110,7 +1111,7 @@ public final class BackLoans {
             listHeirs(town, heirBits);
             least = NONE;
             way = 0;
-            int ways = power(parts);
+            int ways = countWays();
             for (int w = 0; w < ways; w++) {
                 int then = leastShare(w);
                 if (then > least) {
@@ -1124,7 +1125,11 @@ public final class BackLoans {
             if (part < 0 || part >= parts || heirs < 1) {
                 return NONE;
             }
-            return heir[way / power(parts - 1 - part) % heirs];
+            int rest = way;
+            for (int p = parts - 1; p > part; p--) {
+                rest /= heirs;
+            }
+            return heir[rest % heirs];
         }
 
         void listParts(Town town, int person) {
@@ -1148,12 +1153,12 @@ public final class BackLoans {
             }
         }
 
-        int power(int exponent) {
-            int result = 1;
-            for (int i = 0; i < exponent; i++) {
-                result *= Math.max(1, heirs);
+        int countWays() {
+            int ways = 1;
+            for (int part = 0; part < parts; part++) {
+                ways *= heirs;
             }
-            return result;
+            return ways;
         }
 
         int leastShare(int itsWay) {
