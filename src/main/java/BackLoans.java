@@ -924,40 +924,34 @@ public final class BackLoans {
             behind = start;
             if (start >= length) {
                 token = END;
-            } else if (isLetter(start)) {
-                takeWord();
-            } else if (isFigure(start)) {
-                takeNumber();
-            } else {
-                token = bytes[start] == ';' ? STOP : WRONG;
-                behind = start + 1;
+                return;
             }
+            if (takeWord() || takeNumber()) {
+                return;
+            }
+            token = bytes[start] == ';' ? STOP : WRONG;
+            behind = start + 1;
         }
 
-        void takeWord() {
+        boolean takeWord() {
             token = WORD;
-            while (behind < length && isLetter(behind)) {
+            while (behind < length && bytes[behind] >= 'a' && bytes[behind] <= 'z') {
                 behind++;
             }
+            return behind > start;
         }
 
-        void takeNumber() {
+        /** A number of too many figures is a token, too, but one that can stand nowhere. */
+        boolean takeNumber() {
             value = 0;
-            while (behind < length && isFigure(behind)) {
+            while (behind < length && bytes[behind] >= '0' && bytes[behind] <= '9') {
                 if (behind - start < MOST_FIGURES) {
                     value = value * 10 + (bytes[behind] - '0');
                 }
                 behind++;
             }
             token = behind - start <= MOST_FIGURES ? NUMBER : WRONG;
-        }
-
-        boolean isLetter(int place) {
-            return bytes[place] >= 'a' && bytes[place] <= 'z';
-        }
-
-        boolean isFigure(int place) {
-            return bytes[place] >= '0' && bytes[place] <= '9';
+            return behind > start;
         }
 
         boolean isWord(String word) {
