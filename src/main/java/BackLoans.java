@@ -9,6 +9,7 @@ public final class BackLoans {
     private static final int MOST_PEOPLE = 6, MOST_LOANS = 8, MOST_OFFERS = 8;
     private static final int MOST_TEXT = 150, MOST_UNDONE = 8, MOST_HEIRS = 3, IMAGES = 2;
     private static final int CHEST_MOST = 99999, PURSE_MOST = 9999, RATE_MOST = 50, MEANS_MOST = 99;
+    private static final int SPENDS_ABOVE = 50;
     private static final int PENCE_MOST = 99, LONG_MOST = 12, AHEAD_MOST = 60, PASS_MOST = 12;
     private static final int HOLDS_MOST = 9999, SEED_MOST = 999999, BEST_MONTHS = 12;
     private static final int WILL_BAD = -10, WILL_TOO_FEW = -5, READ_FAULT = -10;
@@ -536,12 +537,13 @@ public final class BackLoans {
             return pence[l] * given[l];
         }
 
-        /** One month goes by; to the people in the bits nothing comes in it, and they spend nothing. */
+        /** One month goes by; to the people in the bits nothing comes in it, but who spends does so all the same. */
         void liveMonth(int dry) {
             for (int p = 0; p < people; p++) {
                 if (!hasBit(dry, p)) {
                     takeMeans(p);
                 }
+                spendHalf(p);
             }
             for (int l = 0; l < loans; l++) {
                 if (state[l] == RUNS) {
@@ -557,10 +559,15 @@ public final class BackLoans {
         }
 
         void takeMeans(int p) {
-            int then = Math.min(PURSE_MOST, purse[p] + comesTo(p));
+            purse[p] = Math.min(PURSE_MOST, purse[p] + comesTo(p));
+        }
+
+        void spendHalf(int p) {
             boolean spends = kind[p] == SPENDER || kind[p] == HEIR;
-            // The spent half is cut up, so the half that stays is cut down.
-            purse[p] = spends && then > 50 ? then / 2 : then;
+            if (spends && purse[p] > SPENDS_ABOVE) {
+                // The spent half is cut up, so the half that stays is cut down.
+                purse[p] /= 2;
+            }
         }
 
         int comesTo(int p) {

@@ -31,6 +31,9 @@ public final class OracleTest {
             get(means);
         }
 
+        void spend() {
+        }
+
         boolean gives(int pence) {
             return purse >= pence;
         }
@@ -43,8 +46,7 @@ public final class OracleTest {
     }
 
     static class Spender extends Steady {
-        @Override void month(int m) {
-            super.month(m);
+        @Override void spend() {
             if (purse > 50) purse -= purse / 2 + purse % 2;
         }
     }
@@ -116,7 +118,10 @@ public final class OracleTest {
         }
 
         void live(boolean[] dry) {
-            for (int p = 0; p < people.size(); p++) if (!dry[p]) people.get(p).month(month);
+            for (int p = 0; p < people.size(); p++) {
+                if (!dry[p]) people.get(p).month(month);
+                people.get(p).spend();
+            }
             for (Loan l : loans) {
                 if (l.state != 0) continue;
                 Steady s = people.get(l.person);

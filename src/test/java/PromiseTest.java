@@ -1074,12 +1074,66 @@ public final class PromiseTest {
         long was = x.digest();
         x.drawn(999999, 50, 60, 0);
         due("nothing is changed", x.digest(), was);
-        // What is told beside means does not come to pass in a dry month: a spender keeps his purse.
+        drawnBesideMeans();
+    }
+
+    /** What comes beside means does not come in a dry month; that one spends, or keeps, is nothing that comes. */
+    static void drawnBesideMeans() {
         fresh();
         x.person(2, 0, 60);
-        x.loan(0, 60, 1);
+        x.loan(0, 31, 1);
         due("spends", x.drawn(0, 0, 1, 1), 1);
-        due("does not spend", x.drawn(0, 100, 1, 0), 1);
+        due("a spender spends in a dry month, too", x.drawn(0, 100, 1, 1), 1);
+        fresh();
+        x.person(2, 0, 60);
+        x.loan(0, 30, 1);
+        due("half of 60 stays", x.drawn(0, 100, 1, 0), 1);
+        fresh();
+        x.person(2, 9, 51);
+        x.loan(0, 26, 1);
+        due("of 60 stays 30", x.drawn(0, 0, 1, 0), 1);
+        due("of 51 stays 25", x.drawn(0, 100, 1, 1), 1);
+        fresh();
+        x.person(2, 9, 50);
+        x.loan(0, 50, 1);
+        due("of 59 stays 29", x.drawn(0, 0, 1, 1), 1);
+        due("50 is not above 50", x.drawn(0, 100, 1, 0), 1);
+        drawnHeir();
+        fresh();
+        x.person(3, 9, 0);
+        x.loan(0, 1, 1);
+        due("a gleaner's 2 come in month 0", x.drawn(0, 0, 1, 0), 1);
+        due("a gleaner's 2 do not come in a dry one", x.drawn(0, 100, 1, 1), 1);
+        fresh();
+        x.person(5, 9, 19);
+        x.loan(0, 10, 1);
+        due("a miser has 28", x.drawn(0, 0, 1, 0), 1);
+        due("a miser keeps 19 in a dry month, too", x.drawn(0, 100, 1, 1), 1);
+        fresh();
+        x.person(0, 0, 0);
+        x.person(0, 0, 0);
+        x.person(2, 0, 4999);
+        x.loan(2, 9, 12);
+        due("a spender of 4999, nine months of 12", x.drawn(0, 50, 9, 1), 0);
+        due("a spender of 4999, in the tenth", x.drawn(0, 50, 10, 1), 1);
+        due("a spender of 4999, had", x.drawn(0, 50, 12, 0), 0);
+    }
+
+    static void drawnHeir() {
+        fresh();
+        x.person(4, 0, 0);
+        x.pass(6);
+        x.loan(0, 30, 1);
+        due("an heir's 60 come in month 6, half is spent", x.drawn(0, 0, 1, 0), 1);
+        due("an heir's 60 do not come in a dry one", x.drawn(0, 100, 1, 1), 1);
+        fresh();
+        x.person(4, 0, 81);
+        x.loan(0, 41, 1);
+        due("an heir spends in a dry month, too", x.drawn(0, 100, 1, 1), 1);
+        fresh();
+        x.person(4, 0, 81);
+        x.loan(0, 40, 1);
+        due("of 81 an heir keeps 40", x.drawn(0, 100, 1, 0), 1);
     }
 
     static void p30Part() {
