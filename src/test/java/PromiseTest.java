@@ -1,53 +1,5 @@
 /** For each promise of the document ordinary calls, the edges that it names, and what is refused; all answers worked out by hand. */
-public final class PromiseTest {
-    static final int NONE = -1, BAD = -2, NO = -3, FULL = -4;
-    static final int RUNS = 0, HAD = 1, HOLE = 2, OWED = 3, GONE = 4;
-    static int wrong = 0;
-    static BackLoans x;
-
-    static void due(String call, long got, long want) {
-        if (got != want) {
-            wrong++;
-            System.out.println(call + " answered " + got + ", due is " + want);
-        }
-    }
-
-    /** A refused call: the answer, one more in STATUS, and nothing else changed. Called as refused(name, before(), call). */
-    static long[] before() {
-        return new long[] {x.digest(), x.status(0), x.status(1), x.status(2)};
-    }
-
-    static void refused(String call, long[] was, long got, int answer, int kind) {
-        due(call, got, answer);
-        due(call + ": digest", x.digest(), was[0]);
-        for (int s = 0; s < 3; s++) {
-            due(call + ": status " + s, x.status(s), was[1 + s] + (s == kind ? 1 : 0));
-        }
-    }
-
-    static void bad(String call, long[] was, long got) {
-        refused(call, was, got, BAD, 0);
-    }
-
-    static void no(String call, long[] was, long got) {
-        refused(call, was, got, NO, 1);
-    }
-
-    static void full(String call, long[] was, long got) {
-        refused(call, was, got, FULL, 2);
-    }
-
-    static void fresh() {
-        x = new BackLoans();
-    }
-
-    static void type(String s) {
-        x.clear();
-        for (int i = 0; i < s.length(); i++) {
-            x.type(s.charAt(i));
-        }
-    }
-
+public final class PromiseTest extends Checks {
     static void town(String s, int items) {
         type(s);
         due("read " + s, x.read(), items);
@@ -303,10 +255,6 @@ public final class PromiseTest {
         purses("50 is not above 50", 50);
         x.pass(1);
         purses("month 18: 110 less 55", 55);
-    }
-
-    static void purses(String when, int... want) {
-        for (int p = 0; p < want.length; p++) due(when + ": purse " + p, x.whose(p, 2), want[p]);
     }
 
     static void holesAndLacks() {
@@ -1331,7 +1279,6 @@ public final class PromiseTest {
         p19LoanThen(); p20Lack(); p21Holds(); p22Best(); p23Joins(); p24Run(); p25Will(); p26Whom(); p27Price();
         p28Luck(); p29Drawn(); p30Part(); p31Image(); p32From(); p33Status(); p34Count(); p35Digest();
         wildNumbers();
-        System.out.println(wrong == 0 ? "promises 1 to 35: all answers are as due" : wrong + " answers are not as due");
-        if (wrong != 0) System.exit(1);
+        end("promises 1 to 35: all answers are as due");
     }
 }
