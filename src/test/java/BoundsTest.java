@@ -270,6 +270,7 @@ public final class BoundsTest extends Checks {
         return b;
     }
 
+    /** One person without loans; image 1 is kept, 0 not. */
     static BackLoans onlySecondImage() {
         BackLoans b = new BackLoans();
         b.person(0, 1, 1);
@@ -298,6 +299,11 @@ public final class BoundsTest extends Checks {
         will("the first of his", 0, 2, 0, 1, AS_NONE);
         will("one more than he has", 0, 2, 1, -5, AS_NONE);
         will("many more than he has", 0, 2, MOST, -5, AS_NONE);
+        // He has nothing to leave: nobody is told, all the same.
+        for (int i : of(NONE, 0, 7)) {
+            changesNothing("will: nobody is told, nothing is left", BoundsTest::onlySecondImage, b -> b.will(0, 0, i), NONE, AS_NONE);
+            changesNothing("will: he himself is, nothing is left", BoundsTest::onlySecondImage, b -> b.will(0, 1, i), NONE, AS_NONE);
+        }
         BackLoans b = Towns.mixed();
         due("a bit of one who is not there", b.will(0, 8, NONE), -10);
         due("it counts", b.status(0), 2);

@@ -50,6 +50,13 @@ public final class ForesightEdgeTest extends Checks {
             due("enough", x.lack(60), NONE);
             due("within none", x.lack(0), NONE);
         }
+        one(0, 10, 0, 10, 2);
+        x.rate(50);
+        due("given of what comes", x.lack(60), 1);
+        due("and so it can be held", x.holds(60), 10);
+        one(0, 9, 0, 10, 2);
+        x.rate(50);
+        due("a hole never lacks", x.lack(60), NONE);
         one(0, 0, 99, 10, 3);
         x.rate(50);
         x.pass(2);
@@ -94,6 +101,19 @@ public final class ForesightEdgeTest extends Checks {
         x.chest(15);
         due("15 do", x.lack(1), NONE);
         holdsIsTheLeast();
+        holdsAtMost();
+    }
+
+    /** Chests of 9999 and of 10000 that would be needed. */
+    static void holdsAtMost() {
+        x = Towns.seven(98, 97, 9);
+        due("7 times 1764 less 7 times 294 less 291", x.holds(3), 9999);
+        due("not yet", x.holds(2), 0);
+        x = Towns.seven(91, 96, 10);
+        due("7 times 1638 less 7 times 182 less 192: 10000", x.holds(2), NONE);
+        x.chest(99999);
+        due("none, whatever there is", x.holds(2), NONE);
+        due("though no lacks grow by what there is", x.lack(2), NONE);
     }
 
     /** In any town: so much lets no lacks grow, and a penny less does. */
@@ -231,6 +251,22 @@ public final class ForesightEdgeTest extends Checks {
             x.offer(9, 2);
             best("twice 9 beside 10, of " + purse, 0, purse == 18 ? 9 : 0, purse == 18 ? 1 : 0);
         }
+        // 10 are given once and owed till the chest has 15, in the fifth month: 15 last so long, 14 do not, and the other one is a hole.
+        for (int purse = 14; purse <= 15; purse++) {
+            one(0, 0, purse, 1, 12);
+            x.rate(50);
+            x.offer(10, 1);
+            best("owed too long beside the other one, of " + purse, 0, purse == 15 ? 5 : 0, purse == 15 ? 1 : 0);
+        }
+        // Without it the other one is a hole in the twelfth month, with it not: fewer are not more.
+        one(0, 0, 11, 1, 12);
+        x.rate(50);
+        x.offer(2, 1);
+        due("without it a hole", x.foretold(12, 3), 1);
+        best("it saves the other one", 0, 1, 1);
+        // That one is saved does not make good that an offer is a hole itself.
+        x.offer(99, 12);
+        best("it saves the other one, beside it a hole", 0, 1, 1);
         // The other one is a hole with it and without it.
         one(0, 0, 5, 1, 12);
         x.rate(50);
@@ -319,6 +355,11 @@ public final class ForesightEdgeTest extends Checks {
             x.chest(w[0]);
             run("10 of " + w[0], w[1], w[2], w[3], w[4]);
         }
+        one(0, 0, 9, 1, 9);
+        x.pass(1);
+        run("a penny of a penny", 1, 0, 1, 0);
+        x.chest(0);
+        run("a penny of none", 0, 0, 0, 1);
         fresh();
         x.person(0, 0, 99);
         for (int pence : new int[] {10, 6, 5}) x.loan(0, pence, 9);
@@ -395,6 +436,8 @@ public final class ForesightEdgeTest extends Checks {
         x.pass(1);
         due("what was had is not had again", x.whom(0, 3), 0);
         due("from now", x.whom(0, 18), 4);
+        one(0, 10, 0, 10, 2);
+        due("given of what comes", x.whom(1, 20), 1);
         // One that is owed, and not paid: not had.
         one(0, 0, 10, 10, 1);
         x.rate(50);
@@ -413,6 +456,10 @@ public final class ForesightEdgeTest extends Checks {
             x.pass(1);
         }
         due("a had one's", x.price(0), 1188);
+        one(0, 0, 9, 9, 1);
+        due("of one month, nothing given", x.price(0), 0);
+        x.pass(1);
+        due("of one month", x.price(0), 9);
         one(0, 0, 1, 1, 2);
         x.pass(2);
         due("half a penny", x.price(0), 0);
@@ -553,14 +600,20 @@ public final class ForesightEdgeTest extends Checks {
     }
 
     /** "h = 839; then h = 31 h + v for each v", of each part of the town in its order; it wraps around. */
-    static void digest() {
-        BackLoans b = Towns.mixed();
+    static void digestOf(BackLoans b, int... offersAndFraction) {
         long h = 839;
         for (int what = 0; what < 9; what++) h = 31 * h + b.count(what);
-        for (int p = 0; p < 3; p++) for (int what = 0; what < 3; what++) h = 31 * h + b.whose(p, what);
-        for (int l = 0; l < 7; l++) for (int what = 0; what < 5; what++) h = 31 * h + b.about(l, what);
-        for (int v : new int[] {3, 4, 9, 9, 9, 100}) h = 31 * h + v;
+        for (int p = 0; p < b.count(3); p++) for (int what = 0; what < 3; what++) h = 31 * h + b.whose(p, what);
+        for (int l = 0; l < b.count(4); l++) for (int what = 0; what < 5; what++) h = 31 * h + b.about(l, what);
+        for (int v : offersAndFraction) h = 31 * h + v;
         due("digest", b.digest(), h);
+    }
+
+    static void digest() {
+        digestOf(Towns.empty(), 0, 1);
+        digestOf(Towns.mixed(), 3, 4, 9, 9, 9, 100);
+        digestOf(Towns.alike(), 9, 100);
+        digestOf(Towns.full(), 1, 12, 2, 11, 3, 10, 4, 9, 5, 8, 6, 7, 7, 6, 8, 5, 9, 100);
     }
 
     public static void main(String[] args) {

@@ -563,9 +563,31 @@ public final class MonthEdgeTest extends Checks {
         due("nothing may be undone", x.undo(), NO);
     }
 
+    /** All people and all loans are undone, whichever are more. */
+    static void allAreUndone() {
+        fresh();
+        x.person(0, 1, 50);
+        x.person(0, 2, 60);
+        for (int l = 0; l < 8; l++) x.loan(l % 2, 1 + l, 12);
+        x.pass(1);
+        for (int l = 0; l < 8; l++) due("given " + l, x.about(l, 4), 1);
+        x.undo();
+        for (int l = 0; l < 8; l++) due("not given " + l, x.about(l, 4), 0);
+        purses("undone", 50, 60);
+        fresh();
+        for (int p = 0; p < 6; p++) x.person(0, 1 + p, p);
+        x.loan(5, 1, 12);
+        x.pass(1);
+        purses("a month", 1, 3, 5, 7, 9, 10);
+        x.undo();
+        purses("undone", 0, 1, 2, 3, 4, 5);
+    }
+
     /** "UNDO: .. LACKS": as ahead of the month. */
     static void lacksUndone() {
         fresh();
+        // Two months ahead of the loan, so that lacks and months are not alike.
+        x.pass(2);
         x.person(0, 0, 9);
         x.loan(0, 9, 1);
         x.rate(50);
@@ -574,6 +596,7 @@ public final class MonthEdgeTest extends Checks {
         for (int lacks = 2; lacks >= 0; lacks--) {
             x.undo();
             due("lacks", x.count(6), lacks);
+            due("month", x.count(2), lacks + 2);
         }
         due("runs", x.about(0, 3), RUNS);
     }
@@ -582,7 +605,7 @@ public final class MonthEdgeTest extends Checks {
     static void images() {
         for (int i = 0; i < 2; i++) {
             BackLoans b = Towns.mixed();
-            b.image(i);
+            due("image " + i, b.image(i), 1);
             long was = b.digest();
             b.read();
             b.person(5, 99, 9999);
@@ -590,7 +613,7 @@ public final class MonthEdgeTest extends Checks {
             b.none();
             b.offer(99, 12);
             b.type(65);
-            b.from(i);
+            due("from " + i, b.from(i), 1);
             due("the text stays", b.count(8), Towns.A_TOWN.length() + 1);
             type(b, Towns.A_TOWN);
             due("image " + i, b.digest(), was);
@@ -664,6 +687,7 @@ public final class MonthEdgeTest extends Checks {
         whatCameSince();
         whatCameSinceAsItIsThen();
         whatIsNotUndone();
+        allAreUndone();
         lacksUndone();
         images();
         imagesKeepThePast();

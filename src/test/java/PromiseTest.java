@@ -619,11 +619,6 @@ public final class PromiseTest extends Checks {
         // 8 wholes of 1782, of which 2 times 8 times 99 come in yet: 12672 would be needed.
         due("no chest holds", x.holds(2), NONE);
         due("till then all do", x.holds(1), 0);
-        // 7 * 1764 - 3 * 7 * 98 - 3 * 97, and 7 * 1638 - 2 * 7 * 91 - 2 * 96.
-        sevenAndOne(98, 97, 9);
-        due("the most that may be", x.holds(3), 9999);
-        sevenAndOne(91, 96, 10);
-        due("10000 is too much", x.holds(2), NONE);
         fresh();
         x.rate(50);
         x.person(0, 99, 9999);
@@ -633,16 +628,6 @@ public final class PromiseTest extends Checks {
         due("more than may be", x.holds(3), NONE);
         x.undo();
         due("9702 do: 4 * 7 * 99 come", x.holds(4), 9702);
-    }
-
-    /** Seven loans of 12 months, so many of them gone by, and one that begins then. */
-    static void sevenAndOne(int pence, int last, int months) {
-        fresh();
-        x.rate(50);
-        x.person(0, 99, 9999);
-        for (int l = 0; l < 7; l++) x.loan(0, pence, 12);
-        x.pass(months);
-        x.loan(0, last, 12);
     }
 
     static void p22Best() {

@@ -8,6 +8,8 @@ public final class TextEdgeTest extends Checks {
     /** The text is read: so many items. */
     static BackLoans reads(String text, int items) {
         BackLoans b = Towns.mixed();
+        // What was foretold last must not be seen in the town that is read.
+        b.foretold(60, 1);
         type(b, text);
         int bads = b.status(0);
         due("read \"" + shown(text) + "\"", b.read(), items);
@@ -75,7 +77,27 @@ public final class TextEdgeTest extends Checks {
         fault("chest 1;chest 1;", 8);
         fault("chest 1;rate 1; chest 2;", 16);
         fault(ONE + "chest", 21);
-        due("no rate is told", reads("chest 8;", 1).count(1), 0);
+        BackLoans b = reads("chest 8;", 1);
+        int[] counts = {8, 0, 0, 0, 0, 0, 0, 0, 8};
+        for (int what = 0; what < 9; what++) due("nothing but a chest is told: " + what, b.count(what), counts[what]);
+    }
+
+    /** A word is one only with all its letters, and no other ones. */
+    static void everyLetter() {
+        String[] items = {"chest 1;", "rate 1;", "person 0 0 0;", "loan 0 1 1;", "offer 1 1;"};
+        for (String item : items) {
+            String head = item.startsWith("chest") ? "" : ONE;
+            int word = item.indexOf(' ');
+            reads(head + item, head.isEmpty() ? 1 : 3);
+            for (int at = 0; at < word; at++) {
+                fault(head + item.substring(0, at) + "z" + item.substring(at + 1), head.length());
+                fault(head + item.substring(0, at) + item.substring(at + 1), head.length());
+            }
+            for (String more : new String[] {"a", "z", "m"}) {
+                fault(head + item.substring(0, word) + more + item.substring(word), head.length());
+                fault(head + more + item, head.length());
+            }
+        }
     }
 
     /** "a word that is none", also a ; or a number in its place, also an item within an item. */
@@ -223,7 +245,6 @@ public final class TextEdgeTest extends Checks {
     /** "A TOWN that is read takes the place of all but IMAGES, THE TEXT, THE FRACTION, STATUS (MONTH 0, nothing to undo)." */
     static void whatATownTakesAway() {
         BackLoans b = Towns.mixed();
-        // What was foretold last, with its months and lacks, is not read, either.
         b.foretold(60, 1);
         long image0 = digestFrom(0), image1 = digestFrom(1);
         int[] status = {b.status(0), b.status(1), b.status(2)};
@@ -301,6 +322,7 @@ public final class TextEdgeTest extends Checks {
         everyBeginning();
         chestFirstAndOnce();
         whereAWordStands();
+        everyLetter();
         everyNumber();
         figures();
         tooMany();

@@ -93,6 +93,17 @@ final class Towns {
         return b;
     }
 
+    /** Seven loans of 12 months, so many of them gone by, and an eighth that begins then; the rate is 50. */
+    static BackLoans seven(int pence, int last, int months) {
+        BackLoans b = new BackLoans();
+        b.rate(50);
+        b.person(0, 99, 9999);
+        for (int l = 0; l < 7; l++) b.loan(0, pence, 12);
+        b.pass(months);
+        b.loan(0, last, 12);
+        return b;
+    }
+
     /** A town whose months are all undone. */
     static BackLoans undone() {
         BackLoans b = mixed();
